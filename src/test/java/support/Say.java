@@ -1,0 +1,147 @@
+/** Builds streams bit by bit, by the words of the document, to be fed to an object. */
+final class Say {
+    private final StringBuilder bits = new StringBuilder();
+
+    /** The beginning of a stream: the mark and the two sides. */
+    static Say picture(int width, int height) {
+        return new Say().number(47, 8).number(width - 1, 3).number(height - 1, 3);
+    }
+
+    Say number(int number, int count) {
+        for (int i = 0; i < count; i++) {
+            bits.append((char) ('0' + (number >> i & 1)));
+        }
+        return this;
+    }
+
+    /** Bits in the order in which they stand, with spaces to be left out. */
+    Say raw(String more) {
+        bits.append(more.replace(" ", ""));
+        return this;
+    }
+
+    Say transform(int kind) {
+        return number(1, 1).number(kind, 2);
+    }
+
+    Say noMoreTransforms() {
+        return number(0, 1);
+    }
+
+    Say noCache() {
+        return number(0, 1);
+    }
+
+    Say cache(int colourBits) {
+        return number(1, 1).number(colourBits - 1, 2);
+    }
+
+    /** A code by the bit 1, for one symbol below 256. */
+    Say one(int symbol) {
+        return number(1, 1).number(0, 1).number(1, 1).number(symbol, 8);
+    }
+
+    /** A code by the bit 1, for two symbols in the order given. */
+    Say two(int first, int second) {
+        return number(1, 1).number(1, 1).number(1, 1).number(first, 8).number(second, 8);
+    }
+
+    /** The first half of a code by lengths: the small code, with all 19 lengths. */
+    Say small(int[] lengthOfSymbol) {
+        number(0, 1).number(15, 4);
+        int[] order = {17, 18, 0, 1, 2, 3, 4, 5, 16, 6, 7, 8, 9, 10, 11, 12, 13, 14, 15};
+        for (int symbol : order) {
+            number(lengthOfSymbol[symbol], 3);
+        }
+        return this;
+    }
+
+    /** A whole code by lengths, each length by itself, by a small code with lengths of 5 and 4. */
+    Say lengths(int... lengthOfSymbol) {
+        int[] smallLengths = new int[19];
+        for (int i = 0; i < 19; i++) {
+            smallLengths[i] = i < 13 ? 4 : 5;
+        }
+        small(smallLengths);
+        for (int length : lengthOfSymbol) {
+            raw(smallWord(length));
+        }
+        return this;
+    }
+
+    /** The word of a symbol of the small code of lengths(). */
+    static String smallWord(int symbol) {
+        int length = symbol < 13 ? 4 : 5;
+        int word = symbol < 13 ? symbol : 26 + symbol - 13;
+        StringBuilder text = new StringBuilder();
+        for (int i = length - 1; i >= 0; i--) {
+            text.append((char) ('0' + (word >> i & 1)));
+        }
+        return text.toString();
+    }
+
+    /** An image whose pixels are all the same, said by no bits at all behind its codes. */
+    Say plainImage(int pixel) {
+        return noCache().one(pixel >> 8 & 255).one(pixel >> 16 & 255).one(pixel & 255)
+                .one(pixel >>> 24).one(0);
+    }
+
+    int count() {
+        return bits.length();
+    }
+
+    String text() {
+        return bits.toString();
+    }
+
+    /** Puts the bits behind the object's stream, zeros filling up the last byte. */
+    void feedTo(LosslessPixels object) {
+        feed(text(), object);
+    }
+
+    static void feed(String bits, LosslessPixels object) {
+        for (int i = 0; i < bits.length(); i += 8) {
+            int value = 0;
+            for (int k = 0; k < 8 && i + k < bits.length(); k++) {
+                value |= (bits.charAt(i + k) - '0') << k;
+            }
+            object.feed(value, 1);
+        }
+    }
+
+    /** The bits that an object's stream has, cut off behind so many. */
+    static String bitsOf(LosslessPixels object, int count) {
+        StringBuilder text = new StringBuilder();
+        for (int i = 0; i < count; i++) {
+            text.append((char) ('0' + (object.byteAt(i / 8) >> i % 8 & 1)));
+        }
+        return text.toString();
+    }
+
+    /** What read() answers for these bits on the object; the stream is wiped before. */
+    int readBy(LosslessPixels object) {
+        object.wipe();
+        feedTo(object);
+        return object.read();
+    }
+
+    /** The width, the height and all pixels of an object's picture. */
+    static String pictureOf(LosslessPixels object) {
+        StringBuilder text = new StringBuilder();
+        text.append(object.measure(0)).append('x').append(object.measure(1));
+        for (int y = 0; y < object.measure(1); y++) {
+            for (int x = 0; x < object.measure(0); x++) {
+                text.append(' ').append(Integer.toHexString(object.pixel(x, y)));
+            }
+        }
+        return text.toString();
+    }
+
+    static String hadOf(LosslessPixels object) {
+        StringBuilder text = new StringBuilder();
+        for (int i = 0; i < 7; i++) {
+            text.append(object.had(i)).append(' ');
+        }
+        return text.toString();
+    }
+}
