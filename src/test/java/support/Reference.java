@@ -139,7 +139,7 @@ final class Reference {
         return c;
     }
 
-    private static int[] minus(int[] a, int[] b) {
+    static int[] minus(int[] a, int[] b) {
         int[] c = new int[4];
         for (int i = 0; i < 4; i++) {
             c[i] = (a[i] - b[i] + 256) % 256;

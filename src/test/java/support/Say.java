@@ -56,28 +56,92 @@ final class Say {
         return this;
     }
 
-    /** A whole code by lengths, each length by itself, by a small code with lengths of 5 and 4. */
-    Say lengths(int... lengthOfSymbol) {
+    /** The small code that the four methods below speak: 13 words of 4 bits, 6 of 5. */
+    Say bySmall() {
         int[] smallLengths = new int[19];
         for (int i = 0; i < 19; i++) {
             smallLengths[i] = i < 13 ? 4 : 5;
         }
-        small(smallLengths);
-        for (int length : lengthOfSymbol) {
-            raw(smallWord(length));
+        return small(smallLengths);
+    }
+
+    /** Symbols of that small code. */
+    Say length(int... symbols) {
+        for (int symbol : symbols) {
+            word(symbol < 13 ? symbol : 13 + symbol, symbol < 13 ? 4 : 5);
         }
         return this;
     }
 
-    /** The word of a symbol of the small code of lengths(). */
-    static String smallWord(int symbol) {
-        int length = symbol < 13 ? 4 : 5;
-        int word = symbol < 13 ? symbol : 26 + symbol - 13;
-        StringBuilder text = new StringBuilder();
-        for (int i = length - 1; i >= 0; i--) {
-            text.append((char) ('0' + (word >> i & 1)));
+    Say again(int times) {
+        return length(16).number(times - 3, 2);
+    }
+
+    Say fewZeros(int times) {
+        return length(17).number(times - 3, 3);
+    }
+
+    Say manyZeros(int times) {
+        return length(18).number(times - 11, 7);
+    }
+
+    /** A whole code by lengths: symbols in order, each with its length behind it. */
+    Say code(int m, int... symbolsAndLengths) {
+        bySmall();
+        int done = 0;
+        for (int i = 0; i <= symbolsAndLengths.length; i += 2) {
+            boolean atEnd = i == symbolsAndLengths.length;
+            int to = atEnd ? m : symbolsAndLengths[i];
+            while (to - done >= 11) {
+                int many = Math.min(138, to - done);
+                manyZeros(many);
+                done += many;
+            }
+            for (; done < to; done++) {
+                length(0);
+            }
+            if (!atEnd) {
+                length(symbolsAndLengths[i + 1]);
+                done++;
+            }
         }
-        return text.toString();
+        return this;
+    }
+
+    /** A word, which has its highest bit first. */
+    Say word(int word, int count) {
+        for (int i = count - 1; i >= 0; i--) {
+            bits.append((char) ('0' + (word >> i & 1)));
+        }
+        return this;
+    }
+
+    /** An image without a cache whose pixels are all said by their parts, 8 bits for each. */
+    Say literalImage(int... pixels) {
+        noCache();
+        small(lengthsOf(16, 1, 18, 1));
+        for (int i = 0; i < 42; i++) {
+            raw("0").number(3, 2);
+        }
+        raw("0").number(1, 2).raw("1").number(24 - 11, 7);
+        for (int i = 0; i < 3; i++) {
+            small(lengthsOf(8, 1));
+        }
+        one(0);
+        for (int pixel : pixels) {
+            word(pixel >> 8 & 255, 8).word(pixel >> 16 & 255, 8).word(pixel & 255, 8);
+            word(pixel >>> 24, 8);
+        }
+        return this;
+    }
+
+    /** Lengths for a small code: symbols, each with its length behind it, all others 0. */
+    static int[] lengthsOf(int... symbolsAndLengths) {
+        int[] lengths = new int[19];
+        for (int i = 0; i < symbolsAndLengths.length; i += 2) {
+            lengths[symbolsAndLengths[i]] = symbolsAndLengths[i + 1];
+        }
+        return lengths;
     }
 
     /** An image whose pixels are all the same, said by no bits at all behind its codes. */
