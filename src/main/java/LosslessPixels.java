@@ -547,10 +547,10 @@ public final class LosslessPixels {
     /** The transforms of one stream with what belongs to them. */
     private static final class Transforms {
         final int[] kinds = new int[KINDS];
-        final int[] widths = new int[KINDS];
         final Plane modes = new Plane(MOST_BLOCKS);
         final Plane deltas = new Plane(MOST_BLOCKS);
         final Plane palette = new Plane(MOST_COLOURS);
+        int widthBeforePalette = 1;
         int count;
 
         void clear() {
@@ -573,7 +573,6 @@ public final class LosslessPixels {
                 throw new IllegalArgumentException("a transform comes twice");
             }
             kinds[count] = kind;
-            widths[count] = width;
             count++;
             if (kind == GREEN) {
                 return width;
@@ -582,6 +581,7 @@ public final class LosslessPixels {
                 palette.shape(in.number(4) + 1, 1);
                 reader.take(in, palette);
                 sumUpPalette();
+                widthBeforePalette = width;
                 return Colours.packedWidth(width, Colours.packing(palette.width));
             }
             Plane blocks = kind == FORETELL ? modes : deltas;
@@ -606,7 +606,7 @@ public final class LosslessPixels {
                     case FORETELL: Foretelling.putOn(image, modes); break;
                     case PART: Colours.putTogether(image, deltas); break;
                     case GREEN: Colours.putGreenOn(image); break;
-                    default: Colours.unpack(image, palette, widths[i]);
+                    default: Colours.unpack(image, palette, widthBeforePalette);
                 }
             }
         }
