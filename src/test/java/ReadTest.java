@@ -182,6 +182,9 @@ public final class ReadTest {
         bad("16 beyond m", copyOf(d).bySmall().manyZeros(36).length(2).again(4));
         bad("16 just beyond m, of words that would be enough",
                 copyOf(d).bySmall().manyZeros(37).length(2).again(3));
+        Say most = start(1, 1).noCache().bySmall().length(1, 1).manyZeros(138).manyZeros(137);
+        good("280 for G without a cache", four(copyOf(most).fewZeros(3)).raw("1"), "1x1 100");
+        bad("281 for G without a cache", four(copyOf(most).fewZeros(4)).raw("1"));
         good("17 and 18 at their least and most",
                 copyOf(g).bySmall().length(1).fewZeros(3).fewZeros(10).manyZeros(11).manyZeros(138)
                         .length(1).manyZeros(92).one(0).one(0).one(0).raw("1"), "1x1 a30100");
