@@ -2,6 +2,8 @@ import java.util.Random;
 
 /** Promises 10, 11 and 12 on many streams and pictures, compared with a second program. */
 public final class ComparedTest {
+    private static final String USED_PICTURE = Say.pictureOf(Whole.used());
+    private static final String USED_HAD = Say.hadOf(Whole.used());
     private static int good;
     private static int bad;
 
@@ -14,6 +16,7 @@ public final class ComparedTest {
         for (int seed = 0; seed < 400; seed++) {
             writePictures(new Random(seed), "pictures by seed " + seed);
         }
+        writeByAllArguments();
         Check.end();
     }
 
@@ -22,77 +25,104 @@ public final class ComparedTest {
         if (stream.length() > 5600) {
             return;
         }
-        LosslessPixels object = new LosslessPixels();
-        compareRead(object, stream, name);
+        compareRead(stream, name);
         for (int i = 0; i < 4; i++) {
             StringBuilder changed = new StringBuilder(stream);
             for (int k = random.nextInt(2); k >= 0; k--) {
                 int at = random.nextInt(changed.length());
                 changed.setCharAt(at, changed.charAt(at) == '0' ? '1' : '0');
             }
-            compareRead(object, changed.toString(), name + ", changed");
+            compareRead(changed.toString(), name + ", changed");
         }
-        compareRead(object, stream.substring(0, random.nextInt(stream.length())), name + ", cut off");
+        compareRead(stream.substring(0, random.nextInt(stream.length())), name + ", cut off");
     }
 
-    private static void compareRead(LosslessPixels object, String stream, String name) {
+    private static void compareRead(String stream, String name) {
         // The object's stream ends with a whole byte, so the other program gets the same zeros.
-        String whole = stream + "0".repeat((8 - stream.length() % 8) % 8);
+        String whole = Say.whole(stream);
+        LosslessPixels object = Whole.used();
         object.wipe();
         Say.feed(whole, object);
-        String pictureBefore = Say.pictureOf(object);
-        String hadBefore = Say.hadOf(object);
         Reference.Result due;
         try {
             due = Reference.decode(whole);
         } catch (Reference.Bad e) {
             bad++;
             Check.bad(name, object::read);
-            Check.same(name + ": the picture stays", pictureBefore, Say.pictureOf(object));
-            Check.same(name + ": what was had stays", hadBefore, Say.hadOf(object));
-            Check.same(name + ": the stream stays", whole, Say.bitsOf(object, whole.length()));
+            Check.same(name + ": the picture stays", USED_PICTURE, Say.pictureOf(object));
+            Check.same(name + ": what was had stays", USED_HAD, Say.hadOf(object));
+            streamStays(name, whole, object);
             return;
         }
         good++;
-        Check.same(name + ": bits", due.count, object.read());
+        Check.answers(name + ": bits", due.count, object::read);
         Check.same(name + ": picture", due.picture, Say.pictureOf(object));
         Check.same(name + ": had", due.had, Say.hadOf(object));
-        Check.same(name + ": the stream stays", whole, Say.bitsOf(object, whole.length()));
+        streamStays(name, whole, object);
+    }
+
+    /** Of a long stream only the beginning is looked at, as an object takes but so many calls. */
+    private static void streamStays(String name, String due, LosslessPixels object) {
+        String begin = due.substring(0, Math.min(due.length(), 8 * 250));
+        Check.same(name + ": the stream stays", begin, Say.bitsOf(object, begin.length()));
+        Check.same(name + ": no byte more or less", due.length() / 8, object.wipe());
     }
 
     private static void writePictures(Random random, String name) {
-        LosslessPixels object = new LosslessPixels();
         int w = 1 + random.nextInt(8);
         int h = 1 + random.nextInt(8);
         int[] pixels = pixels(random, w * h);
+        for (int i = 0; i < 12; i++) {
+            Asked asked = new Asked(random.nextInt(3) == 0, random.nextBoolean(),
+                    random.nextInt(15) - 1, random.nextInt(5));
+            compareWrite(name, w, h, pixels, asked);
+        }
+    }
+
+    /** One picture of 16 colours by all that can be asked for. */
+    private static void writeByAllArguments() {
+        int[] pixels = new int[42];
+        for (int i = 0; i < 42; i++) {
+            pixels[i] = i * i * i % 16 * 0x91B3D5F7;
+        }
+        for (int i = 0; i < 300; i++) {
+            Asked asked = new Asked(i % 2 == 1, i / 2 % 2 == 1, i / 4 % 15 - 1, i / 60);
+            compareWrite("all arguments", 7, 6, pixels, asked);
+        }
+    }
+
+    /** What a write is asked for. */
+    private record Asked(boolean palette, boolean green, int mode, int cache) {
+        int by(LosslessPixels object) {
+            return object.write(palette, green, mode, cache);
+        }
+
+        Reference.Result byReference(int w, int h, int[] pixels) {
+            return Reference.encode(w, h, pixels, palette, green, mode, cache);
+        }
+    }
+
+    private static void compareWrite(String name, int w, int h, int[] pixels, Asked asked) {
+        LosslessPixels object = new LosslessPixels();
         object.size(w, h);
         for (int i = 0; i < w * h; i++) {
             object.set(i % w, i / w, pixels[i]);
         }
-        String picture = Say.pictureOf(object);
-        for (int i = 0; i < 12; i++) {
-            boolean palette = random.nextInt(3) == 0;
-            boolean green = random.nextBoolean();
-            int mode = random.nextInt(15) - 1;
-            int cache = random.nextInt(5);
-            String call = name + ": write(" + palette + ", " + green + ", " + mode + ", " + cache + ")";
-            Reference.Result due = Reference.encode(w, h, pixels, palette, green, mode, cache);
-            if (due == null) {
-                String before = Say.bitsOf(object, 5600);
-                Check.bad(call, () -> object.write(palette, green, mode, cache));
-                Check.same(call + ": the stream stays", before, Say.bitsOf(object, 5600));
-                continue;
-            }
-            Check.same(call, due.count, object.write(palette, green, mode, cache));
-            Check.same(call + ": bits", due.bits, Say.bitsOf(object, due.count));
-            Check.same(call + ": had", due.had, Say.hadOf(object));
-            Check.same(call + ": no byte more", -1, object.byteAt((due.count + 7) / 8));
-            Check.same(call + ": the picture stays", picture, Say.pictureOf(object));
-            object.size(1, 1);
-            Check.same(call + ": read again", due.count, object.read());
-            Check.same(call + ": what was read", picture, Say.pictureOf(object));
-            Check.same(call + ": had by reading", due.had, Say.hadOf(object));
+        String picture = Reading.picture(w, h, pixels);
+        String call = name + ": " + asked;
+        Reference.Result due = asked.byReference(w, h, pixels);
+        if (due == null) {
+            Whole.refused(IllegalArgumentException.class, call, object, () -> asked.by(object));
+            return;
         }
+        Check.answers(call, due.count, () -> asked.by(object));
+        Check.same(call + ": had", due.had, Say.hadOf(object));
+        Check.same(call + ": the picture stays", picture, Say.pictureOf(object));
+        object.size(1, 1);
+        Check.answers(call + ": read again", due.count, object::read);
+        Check.same(call + ": what was read", picture, Say.pictureOf(object));
+        Check.same(call + ": had by reading", due.had, Say.hadOf(object));
+        streamStays(call, Say.whole(due.bits), object);
     }
 
     /** Pictures with few colours, with runs, and with many colours. */

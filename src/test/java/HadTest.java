@@ -2,6 +2,9 @@
 public final class HadTest {
     public static void main(String[] args) {
         numbers();
+        noneWhenRefused();
+        otherCallsChangeNothing();
+        writtenThenRead();
         ofReading();
         ofItsImageAlone();
         ofWriting();
@@ -9,36 +12,77 @@ public final class HadTest {
         Check.end();
     }
 
+    /** "NONE for other numbers, or when there was none." */
     private static void numbers() {
         LosslessPixels x = new LosslessPixels();
-        for (int what = -1; what < 9; what++) {
+        int[] others = {-1, 7, 8, 256, -256, Integer.MIN_VALUE, Integer.MAX_VALUE};
+        for (int what : others) {
             Check.same("nothing yet: " + what, LosslessPixels.NONE, x.had(what));
         }
+        Check.same("nothing yet", "-1 -1 -1 -1 -1 -1 -1 ", Say.hadOf(x));
         x.write(false, false, -1, 0);
-        for (int what = 0; what < 7; what++) {
-            Check.same("a write of nothing: " + what, 0, x.had(what));
-        }
-        for (int what : new int[] {-1, 7, 8, Integer.MIN_VALUE, Integer.MAX_VALUE}) {
+        Check.same("a write of nothing", "0 0 0 0 0 0 0 ", Say.hadOf(x));
+        for (int what : others) {
             Check.same("another number: " + what, LosslessPixels.NONE, x.had(what));
         }
+    }
+
+    /** "Of the latest read or write that was done": none was when it was refused. */
+    private static void noneWhenRefused() {
+        LosslessPixels x = new LosslessPixels();
+        Check.bad("a read of nothing", x::read);
+        Check.same("no read", "-1 -1 -1 -1 -1 -1 -1 ", Say.hadOf(x));
+        Check.bad("a write of no mode", () -> x.write(true, true, 14, 4));
+        Check.bad("a write of no cache", () -> x.write(true, true, 13, 5));
+        Check.same("no write", "-1 -1 -1 -1 -1 -1 -1 ", Say.hadOf(x));
+        x.size(8, 8);
+        for (int i = 0; i < 64; i++) {
+            x.set(i % 8, i / 8, i);
+        }
+        Check.bad("a write of too many colours", () -> x.write(true, true, 13, 4));
+        Check.same("still none", "-1 -1 -1 -1 -1 -1 -1 ", Say.hadOf(x));
+        // All transforms, a cache, copies and pixels by the cache, and a copy too many.
+        Say say = said(7).cache(4).code(296, 0, 1, 256, 2, 280, 2).one(0).one(0).one(0).one(39);
+        Check.bad("a read up to its last copy", () -> say.raw("0 11 11 10").number(0, 18).readBy(x));
+        Check.same("none at last", "-1 -1 -1 -1 -1 -1 -1 ", Say.hadOf(x));
+    }
+
+    private static void otherCallsChangeNothing() {
+        LosslessPixels x = Whole.used();
+        String had = Say.hadOf(x);
+        Check.same("what was had", "1 0 1 1 4 ", had.substring(0, 10));
         x.size(3, 3);
         x.set(0, 0, 4);
+        x.pixel(0, 0);
+        x.measure(2);
         x.feed(3, 1);
+        x.flip(0);
+        x.byteAt(0);
+        x.had(9);
         x.wipe();
-        Check.same("other calls change nothing", "0 0 0 0 0 0 0 ", Say.hadOf(x));
+        Check.same("other calls change nothing", had, Say.hadOf(x));
+    }
+
+    /** A stream that was written had, when it is read, what it had when it was written. */
+    private static void writtenThenRead() {
+        for (int asked = 0; asked < 32; asked++) {
+            LosslessPixels x = new LosslessPixels();
+            x.size(4, 3);
+            for (int i = 0; i < 8; i++) {
+                x.set(i % 4, i / 4, i % 3 * 0x00010203);
+            }
+            x.write(asked % 2 == 1, asked / 2 % 2 == 1, asked / 4 % 2 == 1 ? 6 : -1, asked / 8);
+            String had = Say.hadOf(x);
+            x.read();
+            Check.same("asked " + asked, had, Say.hadOf(x));
+        }
     }
 
     private static Say said(int kinds) {
         Say say = Say.picture(2, 2);
         for (int kind = 0; kind < 4; kind++) {
             if ((kinds >> kind & 1) == 1) {
-                say.transform(kind);
-                if (kind == 3) {
-                    say.number(0, 4);
-                }
-                if (kind != 2) {
-                    say.plainImage(0);
-                }
+                say.plainTransform(kind);
             }
         }
         return say.noMoreTransforms();

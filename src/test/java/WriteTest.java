@@ -2,16 +2,31 @@
 public final class WriteTest {
     public static void main(String[] args) {
         plain();
+        lastByte();
         cached();
+        cachedWhereItWouldBePut();
         codesByLengths();
+        evenLengths();
+        oneOrTwoSymbolsBelow256();
         runsOfZeros();
         copies();
+        longestAndFurthestCopy();
+        longestCopies();
+        copiesBeforeTheCache();
         palette();
-        paletteOfMany();
+        paletteInOrder();
+        paletteOfFive();
+        cacheOfTheImageAlone();
+        paletteOfSixteen();
+        paletteOfSeventeen();
         green();
         modes();
+        modesOfFourBlocks();
+        modesAreUndone();
+        modesBehindAPalette();
         allTogether();
         wrongArguments();
+        allArguments();
         longest();
         Check.end();
     }
@@ -53,6 +68,34 @@ public final class WriteTest {
                         .one(0xD4).one(0xA1).one(0).raw("1 0").raw("0 1"));
     }
 
+    /** "With bits 0 at the end of its last byte", whatever the stream had there before. */
+    private static void lastByte() {
+        int[][] sides = {{4, 1}, {5, 1}, {3, 2}, {7, 1}, {4, 2}, {3, 3}, {5, 2}};
+        // No three of these come twice, so there is no copy.
+        String alphas = "0001011100";
+        boolean[] seen = new boolean[8];
+        for (int[] side : sides) {
+            for (int green = 0; green < 2; green++) {
+                int count = side[0] * side[1];
+                int[] pixels = new int[count];
+                for (int i = 0; i < count; i++) {
+                    pixels[i] = alphas.charAt(i) - '0' << 24;
+                }
+                LosslessPixels x = picture(side[0], side[1], pixels);
+                Say.feed("1".repeat(800), x);
+                Say due = Say.picture(side[0], side[1]);
+                due = green == 0 ? due : due.transform(2);
+                due.noMoreTransforms().noCache().one(0).one(0).one(0).two(0, 1).one(0);
+                due.raw(alphas.substring(0, count));
+                written("a last byte", x, x.write(false, green == 1, -1, 0), due);
+                seen[due.count() % 8] = true;
+            }
+        }
+        for (int i = 0; i < 8; i++) {
+            Check.isTrue("a last byte of " + i + " bits was written", seen[i]);
+        }
+    }
+
     /** The head of a small code: its lengths for 17, 18, 0, 1, 2, 3, 4, 5, and zeros. */
     private static Say small(Say say, int... lengths) {
         say.raw("0 1111");
@@ -79,6 +122,46 @@ public final class WriteTest {
         written("the second of two from the cache", y, y.write(false, false, -1, 4), two);
     }
 
+    /** "The colour of the cache, if the cache has the pixel where it would be put." */
+    private static void cachedWhereItWouldBePut() {
+        int[] at0 = new int[4];
+        int found = 0;
+        for (int green = 1; found < 4; green++) {
+            if (Reading.place(green * 256, 1) == 0) {
+                at0[found++] = green * 256;
+            }
+        }
+        int at1 = 0x100;
+        while (Reading.place(at1, 1) == 0) {
+            at1 += 0x100;
+        }
+        saidByCache("the same again", 1, at0[0], at0[0]);
+        saidByCache("another has its place then", 0, at0[0], at0[1], at0[0]);
+        saidByCache("another has another place", 1, at0[0], at1, at0[0]);
+        saidByCache("0 at first", 1, 0);
+        saidByCache("0 where nothing else was put", 1, at1, 0);
+        saidByCache("0 where another was put", 0, at0[0], 0);
+        // The copy of three puts them into the cache, the last of them last.
+        saidByCache("the last one copied", 1, at0[0], at0[1], at0[2], at0[3], at0[0], at0[1], at0[2],
+                at0[2]);
+        saidByCache("not the last one before the copy", 0, at0[0], at0[1], at0[2], at0[3], at0[0],
+                at0[1], at0[2], at0[0]);
+    }
+
+    /** So many pixels of a row are said by a cache of two colours; and none without a cache. */
+    private static void saidByCache(String what, int due, int... pixels) {
+        LosslessPixels x = picture(pixels.length, 1, pixels);
+        String before = Say.pictureOf(x);
+        x.write(false, false, -1, 1);
+        Check.same(what + ": by the cache", due, x.had(6));
+        Check.same(what + ": copies", pixels.length == 8 ? 1 : 0, x.had(5));
+        x.size(1, 1);
+        x.read();
+        Check.same(what + ": read again", before, Say.pictureOf(x));
+        x.write(false, false, -1, 0);
+        Check.same(what + ": without a cache", 0, x.had(6));
+    }
+
     private static void codesByLengths() {
         // Three symbols 0, 1, 4: lengths 1, 2, 2; said 1, 2, 0, 0, 2, and 275 zeros for G.
         LosslessPixels x = picture(3, 1, 0x000, 0x100, 0x400);
@@ -94,6 +177,62 @@ public final class WriteTest {
         five.raw("0 0 0 10 10").raw("11").number(127, 7).raw("11").number(113 - 11, 7);
         five.one(0).raw("00 01 10 110 111");
         written("five symbols", y, y.write(false, false, -1, 0), five);
+    }
+
+    /** "The least b so that 2^b is n or more, the first 2^b - n of them … b - 1, all others b." */
+    private static void evenLengths() {
+        for (int h = 1; h <= 8; h++) {
+            for (int w = h == 1 ? 3 : 2; w <= 8; w++) {
+                redsUpTo(w, h);
+            }
+        }
+    }
+
+    /** As many reds as pixels, from 0 on. */
+    private static void redsUpTo(int w, int h) {
+        int n = w * h;
+        int b = 2;
+        while (1 << b < n) {
+            b++;
+        }
+        int shorter = (1 << b) - n;
+        int[] pixels = new int[n];
+        Say due = Say.picture(w, h).noMoreTransforms().noCache().one(0).raw("0 1111");
+        // b - 1, if there is one, has the word 0; b and 18 have 10 and 11, or else 0 and 1.
+        int[] order = {17, 18, 0, 1, 2, 3, 4, 5, 16, 6, 7, 8, 9, 10, 11, 12, 13, 14, 15};
+        for (int symbol : order) {
+            boolean last = symbol == b || symbol == 18;
+            due.number(last ? (shorter == 0 ? 1 : 2) : symbol == b - 1 && shorter > 0 ? 1 : 0, 3);
+        }
+        Say said = new Say();
+        for (int i = 0; i < n; i++) {
+            pixels[i] = i << 16;
+            due.raw(shorter == 0 ? "0" : i < shorter ? "0" : "10");
+            said.word(i < shorter ? i : i + shorter, i < shorter ? b - 1 : b);
+        }
+        String run = shorter == 0 ? "1" : "11";
+        due.raw(run).number(127, 7).raw(run).number(256 - n - 138 - 11, 7);
+        due.one(0).one(0).one(0).raw(said.text());
+        LosslessPixels x = picture(w, h, pixels);
+        written(n + " reds", x, x.write(false, false, -1, 0), due);
+    }
+
+    /** "One or two of them, below 256: by the bit 1 … Otherwise lengths: one symbol alone has 1." */
+    private static void oneOrTwoSymbolsBelow256() {
+        LosslessPixels x = picture(3, 1, 0xFFFFFFFF, 0xFFFFFFFF, 0xFFFFFFFF);
+        written("255", x, x.write(false, false, -1, 0),
+                Say.picture(3, 1).noMoreTransforms().plainImage(0xFFFFFFFF));
+        LosslessPixels y = picture(2, 1, 0xFF00FF00, 0xFE01FE01);
+        written("254 and 255", y, y.write(false, false, -1, 0), Say.picture(2, 1)
+                .noMoreTransforms().noCache().two(254, 255).two(0, 1).two(0, 1).two(254, 255).one(0)
+                .raw("1 0 0 1").raw("0 1 1 0"));
+        // The first 0 is in the cache, then comes a copy of 3: the symbols 258 and 280, of 282.
+        LosslessPixels z = picture(4, 1, 0, 0, 0, 0);
+        Say due = small(Say.picture(4, 1).noMoreTransforms().raw("1 00"), 0, 2, 1, 2);
+        due.raw("11").number(127, 7).raw("11").number(120 - 11, 7).raw("10");
+        due.raw("11").number(21 - 11, 7).raw("10 0");
+        due.one(0).one(0).one(0).one(6).raw("1").raw("0").number(0, 2);
+        written("two symbols, none below 256", z, z.write(false, false, -1, 1), due);
     }
 
     private static void runsOfZeros() {
@@ -147,9 +286,30 @@ public final class WriteTest {
         written("no copy of 2", y, y.write(false, false, -1, 0), Say.picture(3, 1)
                 .noMoreTransforms().noCache().one(1).one(0).one(0).one(0).one(0));
         Check.same("no copy", 0, y.had(5));
-        longestCopies();
     }
 
+    private static void longestAndFurthestCopy() {
+        LosslessPixels x = new LosslessPixels();
+        x.size(8, 8);
+        for (int i = 0; i < 64; i++) {
+            x.set(i % 8, i / 8, 0x100);
+        }
+        // Green 1, then a copy of 63 at distance 1: by prefix 11 and 14, and k = 9 by prefix 6.
+        Say due = small(Say.picture(8, 8).noMoreTransforms().noCache(), 0, 2, 1, 2);
+        due.raw("0 10 11").number(127, 7).raw("11").number(127 - 11, 7).raw("10 11").number(1, 7);
+        due.one(0).one(0).one(0).one(6).raw("0").raw("1").number(14, 4).number(0, 2);
+        written("a copy of 63", x, x.write(false, false, -1, 0), due);
+        for (int i = 0; i < 64; i++) {
+            x.set(i % 8, i / 8, i % 61 << 8);
+        }
+        String text = Say.bitsOf(x, x.write(false, false, -1, 0));
+        Check.same("one copy of 3", 1, x.had(5));
+        Check.isTrue("at distance 61, k = 69: D has the prefix 12 alone, and 4 behind it",
+                text.contains(new Say().one(0).one(0).one(0).one(12).text())
+                        && text.endsWith(new Say().raw("111111").number(4, 5).text()));
+    }
+
+    /** "The longest copy of at least 3 (of several the one with the least distance)." */
     private static void longestCopies() {
         int a = 0x100;
         int b = 0x200;
@@ -177,6 +337,20 @@ public final class WriteTest {
         return text.endsWith("110" + before + "111" + last);
     }
 
+    /** "Wherever one begins at the pixel that is due … otherwise the colour of the cache." */
+    private static void copiesBeforeTheCache() {
+        LosslessPixels x = picture(8, 1, 7, 7, 7, 7, 8, 8, 8, 9);
+        x.write(false, false, -1, 4);
+        Check.same("three 7 are a copy", 1, x.had(5));
+        Check.same("two 8 are said by the cache", 2, x.had(6));
+        LosslessPixels y = picture(7, 1, 1, 2, 3, 4, 1, 2, 3);
+        y.write(false, false, -1, 4);
+        Check.same("three at the end are a copy", 1, y.had(5));
+        LosslessPixels z = picture(6, 1, 1, 2, 3, 4, 1, 2);
+        z.write(false, false, -1, 4);
+        Check.same("two at the end are none", 0, z.had(5));
+    }
+
     private static void palette() {
         // Without sign the less first: 0x7FFFFFFF, then 0x80000001; the difference part by part.
         LosslessPixels x = picture(3, 1, 0x80000001, 0x7FFFFFFF, 0x80000001);
@@ -199,26 +373,107 @@ public final class WriteTest {
         written("a palette of four", z, z.write(true, false, -1, 0), four);
     }
 
-    private static void paletteOfMany() {
-        LosslessPixels x = new LosslessPixels();
-        x.size(8, 3);
-        for (int i = 0; i < 24; i++) {
-            x.set(i % 8, i / 8, Math.min(i, 15) * 0x10305070);
+    /** "3 by all colours there are, the less first (as numbers without sign)." */
+    private static void paletteInOrder() {
+        LosslessPixels x = picture(4, 1, 0xFFFFFFFF, 0, 0x7FFFFFFF, 0x80000000);
+        String text = Say.bitsOf(x, x.write(true, false, -1, 0));
+        // Numbers 3, 0, 1, 2 by two bits each.
+        Say due = new Say().noMoreTransforms().noCache().one(3 + 16 + 128).one(0).one(0).one(255)
+                .one(0);
+        Check.isTrue("0, 7FFFFFFF, 80000000, FFFFFFFF", text.endsWith(due.text()));
+        LosslessPixels y = picture(3, 1, 2, 0, 1);
+        // By two bits 2, 0, 1, and 0 for no pixel. Differences are 0, 1, 1.
+        Say three = Say.picture(3, 1).transform(3).number(2, 4).noCache().one(0).one(0).two(0, 1)
+                .one(0).one(0).raw("0 1 1");
+        three.noMoreTransforms().plainImage(0xFF001200);
+        written("a palette of three", y, y.write(true, false, -1, 0), three);
+    }
+
+    /** G for 0 and a copy of 3: 1, 257 zeros, 1, 21 zeros, by 1 and 18. */
+    private static Say zeroAndCopyOf3(Say say) {
+        return small(say, 0, 1, 0, 1).raw("0 1").number(127, 7).raw("1").number(119 - 11, 7)
+                .raw("0 1").number(21 - 11, 7);
+    }
+
+    /** Differences 0, 1, 1, 1, 1: 0, 1, and a copy of 3 at distance 1. */
+    private static Say fiveColours() {
+        Say say = zeroAndCopyOf3(Say.picture(5, 1).transform(3).number(4, 4).noCache());
+        return say.one(0).two(0, 1).one(0).one(6).raw("0 0").raw("0 1").raw("1").number(0, 2);
+    }
+
+    private static void paletteOfFive() {
+        LosslessPixels x = picture(5, 1, 0, 1, 2, 3, 4);
+        // By four bits 0x10, 0x32 and 0x04: 4 has 1 bit, 16 and 50 have 2. Said are 4 zeros, 1,
+        // 11 zeros, 2, 33 zeros, 2, 229 zeros: by 1, 2, 17 and 18, of two bits each.
+        Say due = small(fiveColours().noMoreTransforms().noCache(), 2, 2, 0, 2, 2);
+        due.raw("10").number(1, 3).raw("00").raw("11").number(0, 7).raw("01");
+        due.raw("11").number(33 - 11, 7).raw("01");
+        due.raw("11").number(127, 7).raw("11").number(229 - 138 - 11, 7);
+        due.one(0).one(0).one(255).one(0).raw("10 11 0");
+        written("a palette of five", x, x.write(true, false, -1, 0), due);
+    }
+
+    /** "Images for palettes and modes have no cache", where the image has one. */
+    private static void cacheOfTheImageAlone() {
+        LosslessPixels x = picture(5, 1, 0, 1, 2, 3, 4);
+        for (int cache = 1; cache <= 4; cache++) {
+            String said = Say.bitsOf(x, x.write(true, false, -1, cache));
+            Say palette = fiveColours().noMoreTransforms().cache(cache);
+            Check.isTrue("a palette, and a cache", said.startsWith(palette.text()));
+            said = Say.bitsOf(x, x.write(false, false, 6, cache));
+            Say modes = Say.picture(5, 1).transform(0).plainImage(0xFF000600).noMoreTransforms()
+                    .cache(cache);
+            Check.isTrue("modes, and a cache", said.startsWith(modes.text()));
         }
-        Check.same("sixteen colours", 16, x.measure(2));
-        String before = Say.pictureOf(x);
-        int bits = x.write(true, false, -1, 0);
-        x.size(1, 1);
-        Check.same("a palette of 16 is read again", bits, x.read());
-        Check.same("its picture", before, Say.pictureOf(x));
-        x.set(7, 2, 1);
-        String stream = Say.bitsOf(x, 5600);
-        String had = Say.hadOf(x);
-        Check.bad("a palette of 17", () -> x.write(true, false, -1, 0));
-        Check.bad("a palette of 17 and all else", () -> x.write(true, true, 3, 4));
-        Check.same("the stream stays", stream, Say.bitsOf(x, 5600));
-        Check.same("what was had stays", had, Say.hadOf(x));
-        Check.isTrue("17 colours without a palette", x.write(false, true, 3, 4) > 0);
+    }
+
+    private static void paletteOfSixteen() {
+        LosslessPixels x = new LosslessPixels();
+        x.size(8, 2);
+        for (int i = 0; i < 16; i++) {
+            x.set(i % 8, i / 8, i);
+        }
+        // Differences 0 and 15 times 1: 0, 1, and a copy of 14 at distance 1, by prefix 7 and 1.
+        Say due = small(Say.picture(8, 2).transform(3).number(15, 4).noCache(), 0, 1, 0, 1);
+        due.raw("0 1").number(127, 7).raw("1").number(124 - 11, 7).raw("0 1").number(16 - 11, 7);
+        due.one(0).two(0, 1).one(0).one(6).raw("0 0").raw("0 1").raw("1").number(1, 2).number(0, 2);
+        // 0x10, 0x32, 0x54 .. 0xFE: eight symbols of 3 bits, 33 zeros between them.
+        small(due.noMoreTransforms().noCache(), 0, 1, 0, 0, 0, 1);
+        due.raw("1").number(16 - 11, 7);
+        for (int i = 0; i < 8; i++) {
+            due.raw("0 1").number(i < 7 ? 33 - 11 : 25 - 11, 7);
+        }
+        due.one(0).one(0).one(255).one(0);
+        for (int i = 0; i < 8; i++) {
+            due.word(i, 3);
+        }
+        written("a palette of sixteen", x, x.write(true, false, -1, 0), due);
+    }
+
+    /** "Or a palette is asked for and there are more than 16 colours." */
+    private static void paletteOfSeventeen() {
+        for (int colours : new int[] {17, 18, 24, 40}) {
+            LosslessPixels x = new LosslessPixels();
+            x.feed(0x123456, 3);
+            x.size(8, 5);
+            for (int i = 0; i < 40; i++) {
+                x.set(i % 8, i / 8, Math.min(i, colours - 1) * 0x10305070);
+            }
+            Check.same("colours", colours, x.measure(2));
+            Class<?> due = IllegalArgumentException.class;
+            String what = "a palette of " + colours;
+            Whole.refused(due, what, x, () -> x.write(true, false, -1, 0));
+            Whole.refused(due, what + " and all else", x, () -> x.write(true, true, 3, 4));
+            Check.isTrue("without a palette", x.write(false, true, 3, 4) > 0);
+            String had = Say.hadOf(x);
+            Check.bad(what, () -> x.write(true, false, 0, 0));
+            Check.same("what was had stays", had, Say.hadOf(x));
+            x.size(4, 4);
+            for (int i = 0; i < 16; i++) {
+                x.set(i % 4, i / 4, i);
+            }
+            Check.isTrue("a palette of 16", x.write(true, false, -1, 0) > 0);
+        }
     }
 
     private static void green() {
@@ -245,6 +500,60 @@ public final class WriteTest {
         written("two blocks", y, y.write(false, false, 11, 0), due);
     }
 
+    private static void modesOfFourBlocks() {
+        LosslessPixels x = new LosslessPixels();
+        x.size(5, 5);
+        for (int i = 0; i < 25; i++) {
+            x.set(i % 5, i / 5, 0xFF000000);
+        }
+        // Modes: 5, and a copy of 3. G: 5 zeros, 1, 252 zeros, 1, 21 zeros, by 1, 17 and 18.
+        Say due = small(Say.picture(5, 5).transform(0).noCache(), 2, 2, 0, 1);
+        due.raw("10").number(2, 3).raw("0").raw("11").number(127, 7).raw("11").number(114 - 11, 7);
+        due.raw("0 11").number(21 - 11, 7);
+        due.one(0).one(0).one(255).one(6).raw("0").raw("1").number(0, 2);
+        // All as foretold: 0, and a copy of 24 at distance 1, by prefix 8 and 7.
+        small(due.noMoreTransforms().noCache(), 0, 1, 0, 1);
+        due.raw("0 1").number(127, 7).raw("1").number(125 - 11, 7).raw("0 1").number(15 - 11, 7);
+        due.one(0).one(0).one(0).one(6).raw("0").raw("1").number(7, 3).number(0, 2);
+        written("four blocks", x, x.write(false, false, 5, 0), due);
+    }
+
+    /** "Each is done to the image so that undoing gives what was there." */
+    private static void modesAreUndone() {
+        for (int mode = 0; mode <= 13; mode++) {
+            LosslessPixels x = new LosslessPixels();
+            x.size(7, 6);
+            for (int i = 0; i < 42; i++) {
+                x.set(i % 7, i / 7, i * i * 0x1E3779B9 + i * 0x00800100);
+            }
+            String before = Say.pictureOf(x);
+            int bits = x.write(false, mode % 2 == 0, mode, mode % 5);
+            Check.same("the picture stays", before, Say.pictureOf(x));
+            x.size(1, 1);
+            Check.same("mode " + mode + ": bits read again", bits, x.read());
+            Check.same("mode " + mode + ": read again", before, Say.pictureOf(x));
+            Check.same("mode " + mode + ": had", 1, x.had(0));
+        }
+    }
+
+    /** The image that a palette makes is one pixel wide here, so there are two blocks, not four. */
+    private static void modesBehindAPalette() {
+        LosslessPixels x = new LosslessPixels();
+        x.size(8, 5);
+        x.set(0, 0, 5);
+        x.set(1, 2, 5);
+        // Greens 1, 0, 2, 0, 0.
+        Say due = Say.picture(8, 5).transform(3).number(1, 4).noCache().one(0).one(0).two(0, 5)
+                .one(0).one(0).raw("0 1");
+        due.transform(0).plainImage(0xFF000D00).noMoreTransforms().noCache();
+        // To the one above: 1, -1, 2, -2, 0. Five symbols 0, 1, 2 of 2 bits, 254, 255 of 3.
+        // Said are 2, 2, 2, 251 zeros, 3, 3, 24 zeros, by 2, 3 and 18: of 1, 2 and 2 bits.
+        small(due, 0, 2, 0, 0, 1, 2).raw("0 0 0").raw("11").number(127, 7).raw("11")
+                .number(113 - 11, 7).raw("10 10").raw("11").number(24 - 11, 7);
+        due.one(0).one(0).one(0).one(0).raw("01 111 10 110 00");
+        written("modes behind a palette", x, x.write(true, false, 13, 0), due);
+    }
+
     private static void allTogether() {
         // The palette 0, 5 makes one pixel FF000200 of 0, 5; green off makes it FFFE02FE.
         LosslessPixels x = picture(2, 1, 0, 5);
@@ -256,21 +565,41 @@ public final class WriteTest {
         Check.same("all had", "1 0 1 1 0 0 0 ", Say.hadOf(x));
     }
 
+    /** "IllegalArgumentException when mode or cache is another number … the stream stays as it was." */
     private static void wrongArguments() {
-        LosslessPixels x = picture(2, 1, 7, 8);
-        x.feed(0x123456, 3);
         int[][] wrong = {{-2, 0}, {14, 0}, {15, 0}, {Integer.MIN_VALUE, 0}, {Integer.MAX_VALUE, 0},
-            {0, -1}, {0, 5}, {-1, Integer.MIN_VALUE}, {-1, Integer.MAX_VALUE}, {14, 5}};
+            {0, -1}, {0, 5}, {-1, Integer.MIN_VALUE}, {-1, Integer.MAX_VALUE}, {13, 5}, {-2, 4},
+            {14, 5}};
+        Class<?> due = IllegalArgumentException.class;
         for (int[] w : wrong) {
-            Check.bad("write " + w[0] + " " + w[1], () -> x.write(false, false, w[0], w[1]));
-            Check.bad("write " + w[0] + " " + w[1], () -> x.write(true, true, w[0], w[1]));
-            Check.same("the stream stays", 0x56, x.byteAt(0));
-            Check.same("the stream stays", LosslessPixels.NONE, x.byteAt(3));
-            Check.same("nothing was had", LosslessPixels.NONE, x.had(0));
-            Check.same("the picture stays", "2x1 7 8", Say.pictureOf(x));
+            String what = "write " + w[0] + " " + w[1];
+            LosslessPixels x = picture(2, 1, 7, 8);
+            x.feed(0x123456, 3);
+            Whole.refused(due, what, x, () -> x.write(false, false, w[0], w[1]));
+            Whole.refused(due, what + ", all asked for", x, () -> x.write(true, true, w[0], w[1]));
+            LosslessPixels y = Whole.used();
+            Whole.refused(due, what + ", of a used one", y, () -> y.write(true, false, w[0], w[1]));
         }
-        Check.isTrue("the least of each", x.write(false, false, -1, 0) > 0);
-        Check.isTrue("the most of each", x.write(false, false, 13, 4) > 0);
+    }
+
+    /** "Mode which one of 0 .. 13 is (none when -1), cache … 1 .. 4 (0 for none)": each is written. */
+    private static void allArguments() {
+        for (int mode = -1; mode <= 13; mode++) {
+            for (int cache = 0; cache <= 4; cache++) {
+                for (int asked = 0; asked < 4; asked++) {
+                    LosslessPixels x = picture(5, 2, 1, 2, 3, 1, 2, 3, 1, 0x01020304, -1, 2);
+                    String before = Say.pictureOf(x);
+                    String what = "write " + asked + " " + mode + " " + cache;
+                    int bits = x.write(asked % 2 == 1, asked > 1, mode, cache);
+                    Check.same(what + ": had", (mode < 0 ? "0" : "1") + " 0 " + asked / 2 + " "
+                            + asked % 2 + " " + (cache == 0 ? 0 : 1 << cache),
+                            Say.hadOf(x).substring(0, cache == 4 ? 10 : 9));
+                    x.size(1, 1);
+                    Check.same(what + ": bits read again", bits, x.read());
+                    Check.same(what + ": read again", before, Say.pictureOf(x));
+                }
+            }
+        }
     }
 
     /** No picture is said to be too long: such ones as take most bits are written and read. */

@@ -25,6 +25,17 @@ final class Check {
         }
     }
 
+    /** For calls that should answer, but might throw. */
+    static void answers(String what, long due, Call call) {
+        String got;
+        try {
+            got = call.make().toString();
+        } catch (RuntimeException e) {
+            got = e.toString();
+        }
+        same(what, Long.toString(due), got);
+    }
+
     static void isTrue(String what, boolean holds) {
         made++;
         if (!holds) {

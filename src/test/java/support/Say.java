@@ -24,6 +24,15 @@ final class Say {
         return number(1, 1).number(kind, 2);
     }
 
+    /** A transform whose image, if it has one, is plain: pixels 0, and a palette of the colour 0. */
+    Say plainTransform(int kind) {
+        transform(kind);
+        if (kind == 3) {
+            number(0, 4);
+        }
+        return kind == 2 ? this : plainImage(0);
+    }
+
     Say noMoreTransforms() {
         return number(0, 1);
     }
@@ -85,27 +94,35 @@ final class Say {
         return length(18).number(times - 11, 7);
     }
 
+    /** So many zeros by that small code. */
+    Say zeros(int times) {
+        int left = times;
+        while (left >= 11) {
+            int many = Math.min(138, left);
+            manyZeros(many);
+            left -= many;
+        }
+        return length(new int[left]);
+    }
+
     /** A whole code by lengths: symbols in order, each with its length behind it. */
     Say code(int m, int... symbolsAndLengths) {
         bySmall();
         int done = 0;
-        for (int i = 0; i <= symbolsAndLengths.length; i += 2) {
-            boolean atEnd = i == symbolsAndLengths.length;
-            int to = atEnd ? m : symbolsAndLengths[i];
-            while (to - done >= 11) {
-                int many = Math.min(138, to - done);
-                manyZeros(many);
-                done += many;
-            }
-            for (; done < to; done++) {
-                length(0);
-            }
-            if (!atEnd) {
-                length(symbolsAndLengths[i + 1]);
-                done++;
-            }
+        for (int i = 0; i < symbolsAndLengths.length; i += 2) {
+            zeros(symbolsAndLengths[i] - done).length(symbolsAndLengths[i + 1]);
+            done = symbolsAndLengths[i] + 1;
         }
-        return this;
+        return zeros(m - done);
+    }
+
+    /** The same, but each length, each 0 too, is said by itself. */
+    Say codeOneByOne(int m, int... symbolsAndLengths) {
+        int[] lengths = new int[m];
+        for (int i = 0; i < symbolsAndLengths.length; i += 2) {
+            lengths[symbolsAndLengths[i]] = symbolsAndLengths[i + 1];
+        }
+        return bySmall().length(lengths);
     }
 
     /** A word, which has its highest bit first. */
@@ -163,23 +180,37 @@ final class Say {
         feed(text(), object);
     }
 
+    /** Feeds eight bytes at once, as an object takes but so many calls. */
     static void feed(String bits, LosslessPixels object) {
-        for (int i = 0; i < bits.length(); i += 8) {
-            int value = 0;
-            for (int k = 0; k < 8 && i + k < bits.length(); k++) {
-                value |= (bits.charAt(i + k) - '0') << k;
+        for (int i = 0; i < bits.length(); i += 64) {
+            String some = bits.substring(i, Math.min(bits.length(), i + 64));
+            long value = 0;
+            for (int k = 0; k < some.length(); k++) {
+                value |= (long) (some.charAt(k) - '0') << k;
             }
-            object.feed(value, 1);
+            object.feed(value, (some.length() + 7) / 8);
         }
     }
 
-    /** The bits that an object's stream has, cut off behind so many. */
+    /** The first bits that an object's stream has, so many, or fewer if it ends before. */
     static String bitsOf(LosslessPixels object, int count) {
         StringBuilder text = new StringBuilder();
-        for (int i = 0; i < count; i++) {
-            text.append((char) ('0' + (object.byteAt(i / 8) >> i % 8 & 1)));
+        int next = count > 0 ? object.byteAt(0) : LosslessPixels.NONE;
+        for (int i = 1; i <= 701 && next != LosslessPixels.NONE; i++) {
+            text.append(new Say().number(next, 8).text());
+            next = 8 * i < count ? object.byteAt(i) : LosslessPixels.NONE;
         }
-        return text.toString();
+        return text.substring(0, Math.min(count, text.length()));
+    }
+
+    /** All bits of an object's stream. */
+    static String bitsOf(LosslessPixels object) {
+        return bitsOf(object, Integer.MAX_VALUE);
+    }
+
+    /** The bits of a stream that these bits were fed to: with zeros that fill up the last byte. */
+    static String whole(String bits) {
+        return bits + "0".repeat((8 - bits.length() % 8) % 8);
     }
 
     /** What read() answers for these bits on the object; the stream is wiped before. */
@@ -191,12 +222,11 @@ final class Say {
 
     /** The width, the height and all pixels of an object's picture. */
     static String pictureOf(LosslessPixels object) {
-        StringBuilder text = new StringBuilder();
-        text.append(object.measure(0)).append('x').append(object.measure(1));
-        for (int y = 0; y < object.measure(1); y++) {
-            for (int x = 0; x < object.measure(0); x++) {
-                text.append(' ').append(Integer.toHexString(object.pixel(x, y)));
-            }
+        int width = object.measure(0);
+        int height = object.measure(1);
+        StringBuilder text = new StringBuilder(width + "x" + height);
+        for (int i = 0; i < width * height; i++) {
+            text.append(' ').append(Integer.toHexString(object.pixel(i % width, i / width)));
         }
         return text.toString();
     }
