@@ -147,13 +147,17 @@ public final class CodeTest {
 
     /** "A code is bad (a small one, too) when its words are too many or do not use up all …" */
     private static void badSmallCodes() {
-        int[][] bad = {{}, {8, 1, 9, 2}, {8, 7, 9, 7}, {8, 1, 9, 2, 10, 3}, {8, 2, 9, 2, 10, 2},
+        int[][] bad = {{8, 1, 9, 2}, {8, 7, 9, 7}, {8, 1, 9, 2, 10, 3}, {8, 2, 9, 2, 10, 2},
             {8, 1, 9, 1, 10, 1}, {8, 1, 9, 1, 10, 7}, {8, 1, 9, 2, 10, 3, 11, 4, 12, 5, 13, 6, 14, 7},
-            {8, 1, 9, 2, 10, 2, 11, 7}, {17, 2, 18, 1}, {15, 1, 14, 1, 13, 7}};
+            {8, 1, 9, 2, 10, 2, 11, 7}, {8, 2, 9, 2}, {8, 1, 0, 7}, {8, 1, 15, 1, 14, 7}};
         for (int[] lengths : bad) {
+            // 8 has the word of zeros; 256 of them would be a good code.
             Say say = Reading.start(1, 1).noCache().one(0).small(Say.lengthsOf(lengths));
+            say.raw("0".repeat(lengths[1] * 256)).one(0).one(0).one(0);
             Reading.bad("a small code of " + Arrays.toString(lengths), say);
         }
+        Reading.bad("a small code of nothing",
+                Reading.start(1, 1).noCache().one(0).small(Say.lengthsOf()));
         // One of each length up to 7 and a second 7 use up all words.
         Say chain = Reading.start(1, 1).noCache().one(5).small(Say.lengthsOf(8, 1, 9, 2, 10, 3, 11,
                 4, 12, 5, 13, 6, 14, 7, 15, 7));
@@ -208,6 +212,12 @@ public final class CodeTest {
                 "1x1 120100");
         Reading.good("16 behind 16", Reading.copyOf(g).bySmall().length(4).again(6).length(0)
                 .again(5).again(4).zeros(239).one(0).one(0).one(0).raw("1111"), "1x1 100100");
+        // Were it 8 behind a 1, half of all words and 128 of 8 bits would be all words there are.
+        Say ones = Reading.copyOf(g).bySmall().length(1);
+        for (int i = 0; i < 22; i++) {
+            ones.again(i < 20 ? 6 : 4);
+        }
+        Reading.bad("a 1 is a latest length, too", ones.zeros(127).one(0).one(0).one(0));
         Reading.good("the latest of several", Reading.copyOf(g).bySmall().length(1, 4, 3, 4, 0)
                 .again(4).zeros(247).one(0).one(0).one(0).raw("1111"), "1x1 80100");
     }

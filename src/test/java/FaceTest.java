@@ -6,6 +6,8 @@ import java.nio.file.Files;
 import java.nio.file.Path;
 import java.util.Arrays;
 import java.util.TreeSet;
+import java.util.regex.Matcher;
+import java.util.regex.Pattern;
 
 /** The public face: no member more, none less; and the rules that can be seen from outside. */
 public final class FaceTest {
@@ -47,6 +49,7 @@ public final class FaceTest {
         Check.same("the face", new TreeSet<>(Arrays.asList(DUE)).toString(), seen.toString());
         classesInside(face, names);
         imports();
+        library();
         Check.end();
     }
 
@@ -77,6 +80,26 @@ public final class FaceTest {
             Check.isTrue(method + " has a name of its own",
                     Modifier.isPublic(method.getModifiers()) || !publicNames.contains(method.getName()));
         }
+    }
+
+    /** Of the library only what LANGUAGE.md lists; no try, no static block, none of other words. */
+    private static void library() throws Exception {
+        String source = Files.readString(Path.of("src/main/java/LosslessPixels.java"))
+                .replaceAll("(?s)/\\*.*?\\*/", " ").replaceAll("//[^\n]*", " ")
+                .replaceAll("\"[^\"]*\"", "text").replaceAll("import [^;]*;", " ");
+        TreeSet<String> used = new TreeSet<>();
+        Matcher calls = Pattern.compile("\\b(System|Arrays|Math|Integer|Long|String|Thread|Runtime"
+                + "|Object|Class)\\b(\\.\\w+)?").matcher(source);
+        while (calls.find()) {
+            used.add(calls.group());
+        }
+        TreeSet<String> allowed = new TreeSet<>(Arrays.asList("System.arraycopy", "Arrays.fill",
+                "Arrays.copyOf", "Arrays.copyOfRange", "Math.min", "Math.max", "Math.abs"));
+        used.removeAll(allowed);
+        Check.same("of the library", "[]", used.toString());
+        Matcher words = Pattern.compile("\\b(try|catch|finally|synchronized|assert|native|volatile"
+                + "|double|float|equals|hashCode|toString|getClass)\\b|static\\s*\\{").matcher(source);
+        Check.isTrue("none of the words that are ruled out", !words.find());
     }
 
     private static void imports() throws Exception {

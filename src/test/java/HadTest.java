@@ -148,6 +148,9 @@ public final class HadTest {
         Check.same("the write before", "1 0 0 1 4 0 1 ", Say.hadOf(x));
         said(6).plainImage(0).readBy(x);
         Check.same("a read", "0 1 1 0 0 0 0 ", Say.hadOf(x));
+        x.write(false, false, -1, 0);
+        Check.same("a write, of a copy of 3", "0 0 0 0 0 1 0 ", Say.hadOf(x));
+        said(6).plainImage(0).readBy(x);
         Say bad = said(1).cache(4).code(296, 0, 1, 256, 2, 280, 2).one(0).one(0).one(0).one(39);
         Check.bad("a read that is not done", () -> bad.raw("0 11 10").number(0, 18).readBy(x));
         Check.same("the read before", "0 1 1 0 0 0 0 ", Say.hadOf(x));

@@ -6,8 +6,8 @@ public final class RoomTest {
     private static final int ROUNDS = 100;
 
     public static void main(String[] args) {
-        ThreadMXBean threads = (ThreadMXBean) ManagementFactory.getThreadMXBean();
-        if (!threads.isThreadAllocatedMemorySupported()) {
+        if (!(ManagementFactory.getThreadMXBean() instanceof ThreadMXBean threads)
+                || !threads.isThreadAllocatedMemorySupported()) {
             System.out.println("this machine does not tell what is made");
             return;
         }

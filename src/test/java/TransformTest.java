@@ -24,6 +24,7 @@ public final class TransformTest {
         greens();
         palettes();
         palettesOfEachSize();
+        palettesStandAlone();
         palettesAndBlocks();
         Check.end();
     }
@@ -140,6 +141,10 @@ public final class TransformTest {
             foretold(0xFF << shift, 11, 0xFE << shift, 0xFF << shift, 1 << shift, 0);
             foretold(0, 11, 0, 1 << shift, 0xFF << shift, 0);
         }
+        // All parts together: L is 100 off, T is 99, 100 and 101.
+        foretold(0x0A141E28, 11, 0x0A141E28, 0x19191918, 0, 0);
+        foretold(0x19191919, 11, 0x0A141E28, 0x19191919, 0, 0);
+        foretold(0x281E140B, 11, 0x0A141E28, 0x281E140B, 0, 0);
         foretold(0x0000FF00, 11, 0x000000FF, 0x0000FF00, 0x000000FF, 0);
         foretold(0x010000FF, 11, 0x010000FF, 0x0000FF00, 0x0000FF00, 0);
         foretold(0x000100FE, 11, 0x000100FE, 0x00FF0000, 0x00FF0000, 0);
@@ -347,6 +352,36 @@ public final class TransformTest {
                 Reading.good(n + " colours at width " + w, palette(w, 8, differences)
                         .noMoreTransforms().literalImage(said), Reading.picture(w, 8, due));
             }
+        }
+    }
+
+    /** "A number n and above is the colour 0", also where a palette before had more colours. */
+    private static void palettesStandAlone() {
+        int[] sixteen = new int[16];
+        Arrays.fill(sixteen, 0x01010101);
+        for (int n : new int[] {1, 3, 5, 15}) {
+            int[] some = Arrays.copyOf(sixteen, n);
+            int most = n < 3 ? 2 : n < 5 ? 4 : 16;
+            int shift = n < 3 ? 1 : n < 5 ? 2 : 4;
+            Say say = palette(2, 1, some).noMoreTransforms()
+                    .literalImage((n - 1 | n << shift) << 8);
+            Say highest = palette(1, 1, some).noMoreTransforms().literalImage(most - 1 << 8);
+            LosslessPixels x = new LosslessPixels();
+            palette(2, 1, sixteen).noMoreTransforms().literalImage(0xFE00).readBy(x);
+            Check.same("sixteen", "2x1 f0f0f0f 10101010", Say.pictureOf(x));
+            say.readBy(x);
+            Check.same(n + " behind sixteen", Reading.picture(2, 1, n * 0x01010101, 0),
+                    Say.pictureOf(x));
+            highest.readBy(x);
+            Check.same("the highest number, behind sixteen", "1x1 0", Say.pictureOf(x));
+            x.size(8, 2);
+            for (int i = 0; i < 16; i++) {
+                x.set(i % 8, i / 8, ~i);
+            }
+            x.write(true, false, -1, 0);
+            say.readBy(x);
+            Check.same(n + " behind sixteen that were written",
+                    Reading.picture(2, 1, n * 0x01010101, 0), Say.pictureOf(x));
         }
     }
 

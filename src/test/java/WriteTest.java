@@ -15,6 +15,7 @@ public final class WriteTest {
         copiesBeforeTheCache();
         palette();
         paletteInOrder();
+        paletteAtTheEndOfRows();
         paletteOfFive();
         cacheOfTheImageAlone();
         paletteOfSixteen();
@@ -387,6 +388,19 @@ public final class WriteTest {
                 .one(0).one(0).raw("0 1 1");
         three.noMoreTransforms().plainImage(0xFF001200);
         written("a palette of three", y, y.write(true, false, -1, 0), three);
+    }
+
+    /** "Those for no pixel being 0": what stands at the next row's beginning is not taken. */
+    private static void paletteAtTheEndOfRows() {
+        LosslessPixels x = picture(5, 2, 0, 1, 2, 0, 1, 2, 2, 2, 2, 2);
+        Say due = Say.picture(5, 2).transform(3).number(2, 4).noCache().one(0).one(0).two(0, 1)
+                .one(0).one(0).raw("0 1 1");
+        // By two bits 0, 1, 2, 0 are 36; then 1; four times 2 are 170; then 2. Four symbols of two
+        // bits, said as 0, 2, 2, 33 zeros, 2, 133 zeros, 2, 109 zeros, by 0, 2 and 18.
+        small(due.noMoreTransforms().noCache(), 0, 2, 1, 0, 2).raw("0 10 10");
+        due.raw("11").number(33 - 11, 7).raw("10 11").number(133 - 11, 7).raw("10 11")
+                .number(109 - 11, 7).one(0).one(0).one(255).one(0).raw("10 00 11 01");
+        written("a palette at the end of rows", x, x.write(true, false, -1, 0), due);
     }
 
     /** G for 0 and a copy of 3: 1, 257 zeros, 1, 21 zeros, by 1 and 18. */
