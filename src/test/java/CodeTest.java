@@ -56,7 +56,7 @@ public final class CodeTest {
         Reading.bad("two that are the same", Reading.four(Reading.copyOf(two).two(7, 7)));
         Reading.bad("two that are 0", Reading.four(Reading.copyOf(two).raw("1 1 0 0").number(0, 8)));
         Reading.bad("two that are 1", Reading.four(Reading.copyOf(two).raw("1 1 0 1").number(1, 8)));
-        Reading.bad("two that are 255, in the last code",
+        Reading.bad("two that are 39, in the last code",
                 Reading.copyOf(two).one(0).one(0).one(0).one(0).two(39, 39));
     }
 

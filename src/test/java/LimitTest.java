@@ -1,13 +1,5 @@
-import java.io.File;
-import java.net.URL;
-import java.net.URLClassLoader;
 import java.nio.file.Files;
 import java.nio.file.Path;
-import java.util.ArrayList;
-import java.util.List;
-import java.util.stream.Stream;
-import javax.tools.JavaCompiler;
-import javax.tools.ToolProvider;
 
 /**
  * Promise 11: a picture that would take more bytes than a stream can have. No picture takes 700
@@ -35,34 +27,9 @@ public final class LimitTest {
             System.out.println("not tried: the class does not tell its limit by " + LIMIT);
             return;
         }
-        Path folder = Files.createTempDirectory("limited");
-        try {
-            Path copy = folder.resolve("LosslessPixels.java");
-            Files.writeString(copy, source.replace(LIMIT, LESS));
-            JavaCompiler compiler = ToolProvider.getSystemJavaCompiler();
-            Check.same("compiled", 0, compiler.run(null, null, null, "-d", folder.toString(),
-                    copy.toString()));
-            runFrom(folder);
-        } finally {
-            try (Stream<Path> files = Files.list(folder)) {
-                files.map(Path::toFile).forEach(File::delete);
-            }
-            Files.delete(folder);
-        }
-    }
-
-    /** Runs this class again, and all that it uses, with the classes of the folder before others. */
-    private static void runFrom(Path folder) throws Exception {
-        List<URL> urls = new ArrayList<>();
-        urls.add(folder.toUri().toURL());
-        for (String part : System.getProperty("java.class.path").split(File.pathSeparator)) {
-            urls.add(new File(part).toURI().toURL());
-        }
-        try (URLClassLoader loader = new URLClassLoader(urls.toArray(new URL[0]),
-                ClassLoader.getPlatformClassLoader())) {
-            loader.loadClass("LimitTest").getMethod("main", String[].class)
-                    .invoke(null, (Object) new String[] {"by the copy"});
-        }
+        Compiled.use("LosslessPixels", source.replace(LIMIT, LESS), loader -> loader
+                .loadClass("LimitTest").getMethod("main", String[].class)
+                .invoke(null, (Object) new String[] {"by the copy"}));
     }
 
     private static void copyIsLimited() {

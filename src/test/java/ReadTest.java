@@ -18,6 +18,7 @@ public final class ReadTest {
         lengthPrefixes();
         lengthsBeyondAllPictures();
         copies();
+        lengthBeforeDistance();
         farDistances();
         nearDistances();
         distancesInImagesOfTransforms();
@@ -328,6 +329,23 @@ public final class ReadTest {
         Reading.good("no more is read behind the last pixel",
                 Reading.copying(Reading.start(1, 1).noCache(), 2, 6).raw("1").word(3, 7),
                 Reading.greens(1, 1, 3));
+    }
+
+    /** A length with all its bits comes before the symbol of D, and the bits for k behind that. */
+    private static void lengthBeforeDistance() {
+        // Greens 1, 2, 3 and the prefix 4, for lengths of 5 and 6, by two bits each. D has the
+        // prefix 1 by 0, for a distance of 1, and the prefix 6 by 1, for distances of 1 to 4.
+        Say codes = new Say().code(280, 1, 2, 2, 2, 3, 2, 260, 2).one(0).one(0).one(0).two(1, 6);
+        Say five = Reading.start(8, 1).noCache().raw(codes.text()).raw("00 01");
+        Reading.good("5 at distance 2", five.raw("11").number(0, 1).raw("1").number(1, 2).raw("10"),
+                Reading.greens(8, 1, 1, 2, 1, 2, 1, 2, 1, 3));
+        Say six = Reading.start(8, 1).noCache().raw(codes.text()).raw("00 01");
+        Reading.good("6 at distance 1", six.raw("11").number(1, 1).raw("0"),
+                Reading.greens(8, 1, 1, 2, 2, 2, 2, 2, 2, 2));
+        Say both = Reading.start(8, 2).noCache().raw(codes.text()).raw("00 01 10 00");
+        both.raw("11").number(1, 1).raw("1").number(2, 2).raw("11").number(0, 1).raw("1").number(3, 2);
+        Reading.good("6 at distance 3, then 5 at distance 4", both.raw("01"), Reading.greens(8, 2, 1,
+                2, 3, 1, 2, 3, 1, 2, 3, 1, 1, 2, 3, 1, 1, 2));
     }
 
     /** "The distance is k - 8 when k is above 8": each up to 63, and each one pixel too early. */

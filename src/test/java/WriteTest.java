@@ -12,6 +12,7 @@ public final class WriteTest {
         copies();
         longestAndFurthestCopy();
         longestCopies();
+        lengthBeforeDistance();
         copiesBeforeTheCache();
         palette();
         paletteInOrder();
@@ -26,6 +27,7 @@ public final class WriteTest {
         modesAreUndone();
         modesBehindAPalette();
         allTogether();
+        fullPictures();
         wrongArguments();
         allArguments();
         longest();
@@ -338,6 +340,25 @@ public final class WriteTest {
         return text.endsWith("110" + before + "111" + last);
     }
 
+    /** "Each number and symbol in turn": the bits of a length stand before the symbol of D. */
+    private static void lengthBeforeDistance() {
+        // A copy of 5 at distance 1, and one of 5 at distance 5: k of 9 and of 13.
+        int[] greens = {1, 1, 1, 1, 1, 1, 2, 3, 1, 1, 1, 2, 3, 3};
+        LosslessPixels x = new LosslessPixels();
+        x.size(7, 2);
+        for (int i = 0; i < 14; i++) {
+            x.set(i % 7, i / 7, greens[i] << 8);
+        }
+        // G has 1, 2, 3 and 260 by two bits, said as 0, 2, 2, 2, 256 zeros, 2, 19 zeros.
+        Say due = small(Say.picture(7, 2).noMoreTransforms().noCache(), 0, 2, 1, 0, 2);
+        due.raw("0 10 10 10").raw("11").number(127, 7).raw("11").number(118 - 11, 7);
+        due.raw("10").raw("11").number(19 - 11, 7).one(0).one(0).one(0).two(6, 7);
+        due.raw("00").raw("11").number(0, 1).raw("0").number(0, 2).raw("01 10");
+        due.raw("11").number(0, 1).raw("1").number(0, 2).raw("10");
+        written("two copies of 5", x, x.write(false, false, -1, 0), due);
+        Check.same("two copies", 2, x.had(5));
+    }
+
     /** "Wherever one begins at the pixel that is due … otherwise the colour of the cache." */
     private static void copiesBeforeTheCache() {
         LosslessPixels x = picture(8, 1, 7, 7, 7, 7, 8, 8, 8, 9);
@@ -577,6 +598,38 @@ public final class WriteTest {
         due.plainImage(0x00FE02FE);
         written("palette, green, mode, in this order", x, x.write(true, true, 7, 0), due);
         Check.same("all had", "1 0 1 1 0 0 0 ", Say.hadOf(x));
+    }
+
+    /** Pictures of 64 pixels, of 64 colours and of 16, by each transform and by several at once. */
+    private static void fullPictures() {
+        for (int colours : new int[] {64, 16}) {
+            for (int asked = 0; asked < 8; asked++) {
+                boolean palette = asked % 2 == 1 && colours == 16;
+                boolean green = asked / 2 % 2 == 1;
+                int mode = asked < 4 ? -1 : 10;
+                LosslessPixels x = new LosslessPixels();
+                x.size(8, 8);
+                for (int i = 0; i < 64; i++) {
+                    x.set(i % 8, i / 8, i * 5 % colours * 0x13579BDF);
+                }
+                String before = Say.pictureOf(x);
+                String what = "64 pixels of " + colours + " colours, asked " + asked;
+                Check.answers(what + ": bits", Reference.encode(8, 8, pixelsOf(x), palette, green,
+                        mode, 3).count, () -> x.write(palette, green, mode, 3));
+                Check.same(what + ": the picture stays", before, Say.pictureOf(x));
+                x.size(1, 1);
+                x.read();
+                Check.same(what + ": read again", before, Say.pictureOf(x));
+            }
+        }
+    }
+
+    private static int[] pixelsOf(LosslessPixels x) {
+        int[] pixels = new int[64];
+        for (int i = 0; i < 64; i++) {
+            pixels[i] = x.pixel(i % 8, i / 8);
+        }
+        return pixels;
     }
 
     /** "IllegalArgumentException when mode or cache is another number … the stream stays as it was." */
